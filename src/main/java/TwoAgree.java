@@ -85,7 +85,7 @@ public final class TwoAgree {
     }
 
     public int says(int citizen) {
-        return within(citizen, island.size) ? island.speech(citizen, island.falls, island.day) : BAD;
+        return within(citizen, island.size) ? island.speechNow(citizen) : BAD;
     }
 
     // ---- agreeing
@@ -259,11 +259,11 @@ public final class TwoAgree {
         if (!areTwo(ss, SHELVES)) {
             return BAD;
         }
+        if (!areOfBytes(ss)) {
+            return refusalOfTwo(ss);
+        }
         Shelf fallen = shelves[ss / 10];
         Shelf told = shelves[ss % 10];
-        if (!fallen.isOfBytes() || !told.isOfBytes()) {
-            return fallen.isOfBytes() ? told.refusal() : fallen.refusal();
-        }
         int size = daysOn(fallen);
         for (int i = 0; i < told.size; i++) {
             if (i >= size) {
@@ -281,12 +281,10 @@ public final class TwoAgree {
         if (!areTwo(ss, SHELVES) || !within(citizen, island.size) || !within(what, 3)) {
             return BAD;
         }
-        Shelf fallen = shelves[ss / 10];
-        Shelf told = shelves[ss % 10];
-        if (!fallen.isOfBytes() || !told.isOfBytes()) {
-            return fallen.isOfBytes() ? told.refusal() : fallen.refusal();
+        if (!areOfBytes(ss)) {
+            return refusalOfTwo(ss);
         }
-        int fitting = fitting(fallen, told, citizen, what == 2);
+        int fitting = fitting(shelves[ss / 10], shelves[ss % 10], citizen, what == 2);
         if (what == 1) {
             return fitting == 0 ? NOT : lowestOf(fitting);
         }
@@ -516,6 +514,18 @@ public final class TwoAgree {
         return pair >= 0 && pair / 10 < size && pair % 10 < size;
     }
 
+    private boolean areOfBytes(int ss) {
+        return areTwo(ss, SHELVES) && shelves[ss / 10].isOfBytes() && shelves[ss % 10].isOfBytes();
+    }
+
+    /** What is said if not both shelves hold rows of bytes: the first one's fault first. */
+    private int refusalOfTwo(int ss) {
+        if (!areTwo(ss, SHELVES)) {
+            return BAD;
+        }
+        return shelves[ss / 10].isOfBytes() ? shelves[ss % 10].refusal() : shelves[ss / 10].refusal();
+    }
+
     /** DAY so many days on. */
     private int dayBehind(int days) {
         return Math.min(LAST_DAY, island.day + days);
@@ -666,12 +676,11 @@ public final class TwoAgree {
             }
         }
 
-        /** What one says if a weather falls on a day. */
-        int speech(int c, int weather, int onDay) {
-            return within(c, size) ? speechAs(c, kin[c], eye[c], weather, onDay) : 0;
+        int speechNow(int c) {
+            return within(c, size) ? speechAs(c, kin[c], eye[c], falls, day) : 0;
         }
 
-        /** What one would say, were he of such a kin and had such eyes. */
+        /** What one would say if a weather falls on a day, were he of such a kin and had such eyes. */
         int speechAs(int c, int itsKin, int itsEye, int weather, int onDay) {
             if (!within(c, size)) {
                 return 0;
@@ -947,7 +956,7 @@ public final class TwoAgree {
             wide = island.wide;
             for (int c = 0; c < size; c++) {
                 kin[c] = island.kin[c];
-                said[c] = island.speech(c, weather, day);
+                said[c] = island.speechAs(c, island.kin[c], island.eye[c], weather, day);
             }
         }
 
@@ -1062,7 +1071,9 @@ public final class TwoAgree {
         /** The most pairs that agree, nobody in two. */
         int mostCouples() {
             Arrays.fill(friends, 0);
+            Arrays.fill(groups, 0);
             for (int a = 0; a < size; a++) {
+                groups[kin[a]] |= 1 << a;
                 for (int b = a + 1; b < size; b++) {
                     friends[a] |= agree(a, b) ? 1 << b : 0;
                 }
@@ -1072,9 +1083,9 @@ public final class TwoAgree {
 
         /** Each step leaves out one at least of those who are free: it goes ten deep at most. */
         private int mostAmong(int free) {
-            int bound = Integer.bitCount(free) / 2;
+            int bound = boundAmong(free);
             int one = lowestOf(free);
-            if (bound == 0 || one >= CITIZENS) {
+            if (bound <= 0 || one >= CITIZENS) {
                 return 0;
             }
             int rest = free & ~(1 << one);
@@ -1085,6 +1096,16 @@ public final class TwoAgree {
                 }
             }
             return most < bound ? Math.max(most, mostAmong(rest)) : most;
+        }
+
+        /** No more couples than half of them, nor than those outside the largest family: it spares much trying. */
+        private int boundAmong(int free) {
+            int members = Integer.bitCount(free);
+            int largest = 0;
+            for (int k = 0; k < KINS; k++) {
+                largest = Math.max(largest, Integer.bitCount(free & groups[k]));
+            }
+            return Math.min(members / 2, members - largest);
         }
 
         /** Kins whose members agree must become one, however far round: each joining is a marriage. */
