@@ -312,7 +312,8 @@ public final class TwoAgree {
         int found = 0;
         for (int i = 0; i < years * yearDays; i++) {
             z = z * 1103515245 + 12345;
-            crowd.gatherAgain(island, (z >>> 8) % WEATHERS, dayBehind(i));
+            // Each year begins now; z alone goes on over all of them.
+            crowd.gatherAgain(island, (z >>> 8) % WEATHERS, dayBehind(i % yearDays));
             int bits = island.size == 0 ? 0 : crowd.happened((z >>> 16) % island.size);
             if (weather == WEATHERS ? bits == 0 : has(bits, weather)) {
                 found++;
@@ -943,8 +944,7 @@ public final class TwoAgree {
         private final int[] families = new int[WEATHERS];
         private final int[] friends = new int[CITIZENS];
         private final int[] groups = new int[KINS];
-        private final int[] saidOnce = new int[WEATHERS * CITIZENS];
-        private final int[] saidOnDay = new int[WEATHERS];
+        private final int[] saidOnce = new int[WEATHERS * MOST_YEAR_DAYS];
 
         void gatherNow(Island island) {
             gather(island, island.falls, island.day);
@@ -961,23 +961,37 @@ public final class TwoAgree {
         }
 
         void forget() {
-            Arrays.fill(saidOnDay, NEVER);
+            Arrays.fill(saidOnce, NEVER);
         }
 
-        /** As gather(), but what was worked out since forget() is not worked out again. */
+        /** As gather(), but a day like one since forget() is not worked out again: all years have the same days. */
         void gatherAgain(Island island, int weather, int day) {
-            if (!within(weather, WEATHERS)) {
+            int ahead = island.law.usesDay ? day - island.day : 0;
+            if (!within(weather, WEATHERS) || !within(ahead, MOST_YEAR_DAYS)) {
                 return;
             }
-            int tellingDay = island.law.usesDay ? day : 0;
-            int place = weather * CITIZENS;
-            if (saidOnDay[weather] == tellingDay) {
-                System.arraycopy(saidOnce, place, said, 0, CITIZENS);
+            int place = weather * MOST_YEAR_DAYS + ahead;
+            if (saidOnce[place] != NEVER) {
+                unpack(saidOnce[place]);
                 return;
             }
             gather(island, weather, day);
-            System.arraycopy(said, 0, saidOnce, place, CITIZENS);
-            saidOnDay[weather] = tellingDay;
+            saidOnce[place] = packed();
+        }
+
+        /** What all say in one number, three bits for each: never below 0. */
+        private int packed() {
+            int bits = 0;
+            for (int c = 0; c < size; c++) {
+                bits |= said[c] << 3 * c;
+            }
+            return bits;
+        }
+
+        private void unpack(int bits) {
+            for (int c = 0; c < size; c++) {
+                said[c] = bits >>> 3 * c & 7;
+            }
         }
 
         boolean agree(int a, int b) {

@@ -263,11 +263,23 @@ public final class DaysTest {
         TwoAgree two = Due.island(0, 1);
         Due.is("23: one of two is away", two.drawn(5, 240, 6), 80);
         TwoAgree byDay = Due.island(0, 1, 2);
-        Due.law(byDay, "d<50?c*2;d=99?3;1");
-        Due.is("23: the first fifty days are dry", byDay.drawn(9, 3040, 6), 50);
-        Due.is("23: then 49 of 1", byDay.drawn(9, 3040, 1), 49);
-        Due.is("23: 99 stays", byDay.drawn(9, 3040, 3), 1101);
+        Due.law(byDay, "d<30?c*2;d=99?3;1");
+        Due.is("23: each year's first thirty days are dry", byDay.drawn(9, 3040, 6), 900);
+        Due.is("23: then ten of 1", byDay.drawn(9, 3040, 1), 300);
+        Due.is("23: days are of the years", byDay.drawn(9, 4 * 100 + 31, 1), 4);
+        byDay.mend(0, 6, 20);
+        Due.is("23: each year begins now", byDay.drawn(9, 320, 6), 30);
+        byDay.mend(0, 6, 90);
+        Due.is("23: 99 stays", byDay.drawn(9, 3040, 3), 930);
+        Due.is("23: nine days ahead of it", byDay.drawn(9, 3040, 1), 270);
+        // By seed 4 the years' only days have 5, 2, 4 and 2 falling.
+        TwoAgree drawnOn = Due.island(0, 1, 2);
+        int[] falling = {0, 0, 2, 0, 1, 1, 0};
+        for (int w = 0; w < falling.length; w++) {
+            Due.is("23: z goes on over the years", drawnOn.drawn(4, 401, w), falling[w]);
+        }
         byDay.mend(0, 6, 40);
+        Due.law(byDay, "d<50?c*2;1");
         Due.is("23: from now", byDay.drawn(9, 120, 6), 10);
         Due.is("23: DAY is as it was", byDay.of(0, 6), 40);
         int[] wrong = {0, 1, 40, 100, 141, 3141, 3101, 3100, -101, -1, Integer.MIN_VALUE, Integer.MAX_VALUE};

@@ -607,8 +607,9 @@ final class Plain {
         if (nm < 0) return BAD;
         int n = nm / 100, m = nm % 100;
         if (n < 1 || n > 30 || m < 1 || m > 40 || w < 0 || w > 6) return BAD;
-        int z = seed, found = 0, d = day;
+        int z = seed, found = 0;
         for (int year = 0; year < n; year++) {
+            int d = day;
             for (int i = 0; i < m; i++) {
                 z = z * 1103515245 + 12345;
                 int bits = 0;
